@@ -65,9 +65,7 @@ public final class CrossReader {
     private Grammar present = new Grammar();
     private Grammar draft = new Grammar();
     private int known;
-    private long allWays;
     private long summed;
-    private long foundRank;
 
     public CrossReader() {
         known = 0;
@@ -246,8 +244,7 @@ public final class CrossReader {
     }
 
     public int reads() {
-        knowCounts();
-        return allWays == 0 ? 0 : 1;
+        return countedWays() == 0 ? 0 : 1;
     }
 
     public int heads() {
@@ -262,8 +259,7 @@ public final class CrossReader {
     }
 
     public long ways() {
-        knowCounts();
-        return shown(allWays);
+        return shown(countedWays());
     }
 
     public long without(int tree) {
@@ -453,8 +449,12 @@ public final class CrossReader {
     private void knowCounts() {
         if (learns(KNOWN_COUNTS)) {
             counts.fill(present, present.absent, letters.length, counting);
-            allWays = counts.atStart(letters.length);
         }
+    }
+
+    private long countedWays() {
+        knowCounts();
+        return counts.atStart(letters.length);
     }
 
     private void knowSummary() {
@@ -470,14 +470,15 @@ public final class CrossReader {
             return NO_SUCH;
         }
         knowCounts();
-        if (allWays > MOST_WAYS) {
+        long all = counts.atStart(letters.length);
+        if (all > MOST_WAYS) {
             return TOO_GREAT;
         }
-        if (k >= allWays) {
+        if (k >= all) {
             return NONE;
         }
-        if (learns(KNOWN_WAY) || foundRank != k) {
-            foundRank = k;
+        if (learns(KNOWN_WAY) || found.rank != k) {
+            found.rank = k;
             finder.find(counts, k, found);
             found.unfold(present);
         }
@@ -1339,6 +1340,7 @@ public final class CrossReader {
     /** Steps put into one another, and what grows of them. */
     private static final class Way {
         private static final int CLOSE = -1;
+        long rank;
         int size;
         int deepest;
         int branches;

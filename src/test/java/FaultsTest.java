@@ -25,6 +25,9 @@ public final class FaultsTest {
         test.lookAtKnownFaults();
         System.out.println("without " + test.kinds[0] + ", kinds 1 .. 4: " + test.kinds[1] + " " + test.kinds[2] + " "
             + test.kinds[3] + " " + test.kinds[4]);
+        for (int round = 0; round < 20000; round++) {
+            test.lookAtStepsText(test.randomSteps());
+        }
         for (int round = 0; round < 400; round++) {
             test.callAnything();
         }
@@ -158,6 +161,21 @@ public final class FaultsTest {
         fault(eight + ";", 1, 88);
     }
 
+    /** Refused as no text just if it is none; what is told in OUT stays then. */
+    private void lookAtStepsText(String text) {
+        checks.about("[" + text + "]");
+        String blanks = "[ \n]*";
+        String three = blanks + "\\d+[ \n]+\\d+[ \n]+\\d+" + blanks + ";";
+        boolean good = text.matches(blanks + "\\d+" + blanks + ";(" + three + ")*" + blanks);
+        good &= text.chars().filter(sign -> sign == ';').count() <= 40;
+        CrossReader x = Checks.reader("tree (S .);tree (S a S*);", "");
+        x.tell(0);
+        int got = Checks.test(x, text);
+        checks.due("test() is -4", got == -4 ? 1 : 0, good ? 0 : 1);
+        checks.due("the tape", x.count(8), 0);
+        checks.due("OUT", got < 0 && !Checks.told(x).equals("(S .)") ? 1 : 0, 0);
+    }
+
     private int any() {
         switch (pick(5)) {
             case 0: return pick(4) - 2;
@@ -236,6 +254,12 @@ public final class FaultsTest {
         int steps = pick(50);
         for (int s = 0; s < steps && text.length() < 380; s++) {
             text.append(pick(9)).append(' ').append(pick(s + 2)).append(' ').append(pick(13)).append(';');
+        }
+        for (int change = pick(3); change > 0; change--) {
+            text.insert(pick(text.length() + 1), pick(2) == 0 ? ' ' : '\n');
+        }
+        if (pick(5) == 0) {
+            text.deleteCharAt(pick(text.length()));
         }
         if (pick(5) == 0) {
             text.setCharAt(pick(text.length()), SIGNS.charAt(pick(SIGNS.length())));

@@ -84,11 +84,12 @@ public final class LanguageTest {
                 checks.due("final " + field, isStatic && !Modifier.isFinal(field.getModifiers()) ? 1 : 0, 0);
             }
             checks.due("fields of " + one + ": " + fields, fields <= 21 ? 1 : 0, 1);
+            boolean inside = one != CrossReader.class;
             for (Method method : one.getDeclaredMethods()) {
+                checks.due("the face's name " + method, inside && FACE.contains(" " + method.getName() + "(") ? 1 : 0, 0);
                 checks.due("parameters of " + method, method.getParameterCount() <= 7 ? 1 : 0, 1);
             }
-            boolean nested = one != CrossReader.class;
-            checks.due("static " + one, nested && !Modifier.isStatic(one.getModifiers()) ? 1 : 0, 0);
+            checks.due("static " + one, inside && !Modifier.isStatic(one.getModifiers()) ? 1 : 0, 0);
         }
     }
 

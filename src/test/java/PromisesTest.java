@@ -79,6 +79,7 @@ public final class PromisesTest {
         due("end(401)", x.end(401), NONE);
         due("end(-1)", x.end(-1), NONE);
         due("count(8) behind refused ends", x.count(8), 400);
+        due("end(400), all of it", x.end(400), 400);
         due("end(381)", x.end(381), 381);
         due("feed to 401", x.feed(1, 2, 3, 4, 5), NONE);
         due("count(8)", x.count(8), 381);

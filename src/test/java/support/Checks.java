@@ -77,6 +77,20 @@ final class Checks {
         return text.toString();
     }
 
+    /** What an object tells of its trees, its sentence and its OUT, for calls behind which all stays. */
+    static String seen(CrossReader x) {
+        StringBuilder text = new StringBuilder();
+        for (int what = 0; what < 10; what++) {
+            text.append(what == 8 ? 0 : x.count(what)).append(' ');
+        }
+        for (int tree = 0; tree < x.count(0); tree++) {
+            for (int node = 0; node < x.tree(tree, 1); node++) {
+                text.append(x.node(tree, node, 0)).append(x.node(tree, node, 1)).append(x.node(tree, node, 2)).append(' ');
+            }
+        }
+        return text.append(x.ways()).append(' ').append(x.heads()).append(' ').append(x.sentences(2)).toString();
+    }
+
     static CrossReader reader(String grammar, String sentence) {
         CrossReader x = new CrossReader();
         grammar(x, grammar);

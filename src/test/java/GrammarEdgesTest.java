@@ -18,6 +18,7 @@ public final class GrammarEdgesTest {
         test.feedBytes();
         test.endEdges();
         test.grammarInPlaceOfAnother();
+        test.formerTreesAreGone();
         test.grammarRefused();
         test.faultAnswers();
         test.sayEdges();
@@ -188,6 +189,35 @@ public final class GrammarEdgesTest {
         due("the SENTENCE stays", x.count(2), 2);
         due("blanks alone", Checks.grammar(x, " \n \n"), 0);
         due("400 blanks", Checks.grammar(x, " ".repeat(400)), 0);
+    }
+
+    /** TREES of the same number in a former one, and in one that was refused, had LABELS that are asked for. */
+    private void formerTreesAreGone() {
+        String[] ahead = {"tree(Q q);", "?", "", "tree(Q q)"};
+        for (String text : ahead) {
+            checks.about("4: in place of another, [" + text + "] ahead of it");
+            CrossReader x = Checks.reader("tree(S s);tree(A a);tree(S b S*);", "as");
+            Checks.grammar(x, text);
+            due("TREES", Checks.grammar(x, "tree(S A^ s);tree(B a);tree(T b T*);tree(S! b);"), 4);
+            due("no HOST of the former LABEL", x.ways(), 0);
+            due("no HOST of the former LABEL", x.over(0, 1, 1, 0, 1, NONE, NONE), 0);
+            Checks.say(x, "bb");
+            due("no GUEST of the former LABEL", x.ways(), 0);
+            x.marks(3, 0, 0);
+            due("no GUEST of the former LABEL", x.ways(), 0);
+            due("no GUEST of the former LABEL", Checks.test(x, "3;2 0 0;"), -101);
+            checks.about("4: in place of one that was refused, [" + text + "] ahead of it");
+            CrossReader y = new CrossReader();
+            Checks.grammar(y, "tree(S s);tree(A a);tree(S b S*);tree(S a);?");
+            Checks.grammar(y, text);
+            due("TREES", Checks.grammar(y, "tree(S A^ s);tree(B a);tree(T b T*);tree(U a);"), 4);
+            Checks.say(y, "as");
+            due("as", y.ways(), 0);
+            Checks.say(y, "ba");
+            due("ba", y.ways(), 0);
+            Checks.say(y, "a");
+            due("a", y.ways(), 0);
+        }
     }
 
     private void grammarRefused() {
@@ -497,6 +527,7 @@ public final class GrammarEdgesTest {
         fault("tree(S a S", 1, 10);
         fault("tree(S tree);", 1, 9);
         fault("tree(S a;", 1, 8);
+        fault("tree(S a b;", 1, 10);
         fault("tree(S(S a);", 1, 11);
     }
 

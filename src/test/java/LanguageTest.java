@@ -7,7 +7,9 @@ import java.nio.file.Files;
 import java.nio.file.Path;
 import java.util.ArrayList;
 import java.util.HashSet;
+import java.util.IdentityHashMap;
 import java.util.List;
+import java.util.Map;
 import java.util.Set;
 import java.util.TreeSet;
 import java.util.regex.Matcher;
@@ -27,11 +29,13 @@ public final class LanguageTest {
 
     private final Checks checks = new Checks();
 
-    public static void main(String[] args) throws IOException {
+    public static void main(String[] args) throws IOException, IllegalAccessException {
         LanguageTest test = new LanguageTest();
         test.lookAtFace();
         test.lookAtClasses();
         test.lookAtText(Files.readString(Path.of("src/main/java/CrossReader.java")));
+        test.lookAtMaking(Files.readString(Path.of("src/main/java/CrossReader.java")));
+        test.lookAtRoom();
         test.checks.finish();
     }
 
@@ -119,5 +123,62 @@ public final class LanguageTest {
             }
             checks.due("signs of line " + line, lines[line].length() <= 120 ? 1 : 0, 1);
         }
+    }
+
+    /** Objects are made where fields are told, and in constructors, so that calls make none. */
+    private void lookAtMaking(String text) {
+        checks.about("rule 12");
+        for (String line : text.split("\n")) {
+            boolean made = line.matches(".*\\bnew \\w.*") && !line.matches("\\s*(//|/?\\*).*");
+            boolean field = line.matches("( {4}){1,2}(private )?(final )?[\\w\\[\\]]+ \\w+ = new .*;");
+            boolean row = line.equals("            row = new byte[Math.max(room, 0)];");
+            checks.due("made in " + line, made && !field && !row ? 1 : 0, 0);
+        }
+    }
+
+    /** Some 60 objects go into a room of 7.3 million fields and elements, however many calls they answer. */
+    private void lookAtRoom() throws IllegalAccessException {
+        checks.about("the room");
+        CrossReader x = new CrossReader();
+        long before = sizeOf(x, new IdentityHashMap<>());
+        checks.due("fields and elements: " + before, before < 120000 ? 1 : 0, 1);
+        Checks.grammar(x, "tree(S(S! S^ S^)(S!(S! S^ S^)(S! S^ a)));tree(S(S(S(S .))));tree(S b S*);");
+        Checks.say(x, "aababaaa");
+        long k = x.ways() - 1;
+        x.tell(k);
+        x.tellWay(k);
+        Checks.test(x, "0;");
+        x.mends();
+        x.sentences(4);
+        x.used(0);
+        x.without(1);
+        x.items(1);
+        checks.due("more behind the dearest calls", sizeOf(x, new IdentityHashMap<>()) > before ? 1 : 0, 0);
+    }
+
+    private static long sizeOf(Object one, Map<Object, Boolean> seen) throws IllegalAccessException {
+        if (one == null || seen.put(one, true) != null) {
+            return 0;
+        }
+        Class<?> kind = one.getClass();
+        if (kind.isArray()) {
+            long size = java.lang.reflect.Array.getLength(one);
+            if (one instanceof Object[] parts) {
+                for (Object part : parts) {
+                    size += sizeOf(part, seen);
+                }
+            }
+            return size;
+        }
+        long size = 0;
+        for (Class<?> up = kind; up != Object.class; up = up.getSuperclass()) {
+            for (Field field : up.getDeclaredFields()) {
+                if (!Modifier.isStatic(field.getModifiers())) {
+                    field.setAccessible(true);
+                    size += 1 + (field.getType().isPrimitive() ? 0 : sizeOf(field.get(one), seen));
+                }
+            }
+        }
+        return size;
     }
 }

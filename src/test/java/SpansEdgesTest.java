@@ -22,6 +22,7 @@ public final class SpansEdgesTest {
         test.overOut();
         test.tooGreat();
         test.closeToTooGreat();
+        test.justNotTooGreat();
         test.itemsEdges();
         test.spansEdges();
         test.aroundEdges();
@@ -319,10 +320,50 @@ public final class SpansEdgesTest {
     }
 
     private void lookAtNumber(String grammar, BigInteger ways) {
+        lookAtNumber(grammar, 8, ways);
+    }
+
+    private void lookAtNumber(String grammar, int letters, BigInteger ways) {
         Reference r = new Reference();
         r.parse(grammar);
         r.sentence = "aaaaaaaa";
-        checks.due("the reference's ways", r.countWays(8).toString(), ways.toString());
+        checks.due("the reference's ways", r.countWays(letters).toString(), ways.toString());
+    }
+
+    /** The greatest number that is told, once as a sum of those of two HOSTS, once as a product of those of two CHILDREN. */
+    private void justNotTooGreat() {
+        checks.about("TOO_GREAT: 1000000000000000 is not more than that");
+        String five = "tree(A .);".repeat(5);
+        String sum = "tree(S(B(B(B+ a A^))));tree(S(B(B(B(B .)))));tree(B(B(B a(B A^(B A^(B A^ B*))))));" + five;
+        lookAtNumber(sum, 5, BigInteger.valueOf(MOST));
+        CrossReader x = Checks.reader(sum, "aaaaa");
+        lookAtGreatest(x);
+        due("of its HOSTS", x.over(0, 0, 1, 0, 5, NONE, NONE), 976562500000L);
+        due("of its HOSTS", x.over(1, 0, 1, 0, 5, NONE, NONE), MOST - 976562500000L);
+        due("without(0)", x.without(0), MOST - 976562500000L);
+        Checks.say(x, "aaaaaa");
+        due("a LETTER more", x.ways(), -3);
+        due("a LETTER more", x.steps(MOST - 1), -3);
+        String product = "tree(S A^(B A^(B A^(B A^(B(B+ a))))));tree(B(B! a A^)(B! A^ B*));tree(B(B(B(B(B a(B A^(B A^ B*)))))));" + five;
+        lookAtNumber(product, 6, BigInteger.valueOf(MOST));
+        CrossReader y = Checks.reader(product, "aaaaaa");
+        lookAtGreatest(y);
+        due("below", y.over(0, 0, 0, 0, 6, NONE, NONE), MOST);
+        due("above", y.over(0, 0, 1, 0, 6, NONE, NONE), MOST);
+        due("its second CHILD", y.over(0, 2, 1, 0, 6, NONE, NONE), MOST / 5);
+        y.out(7, 1);
+        due("one of its first CHILD's HOSTS less", y.ways() > 0 && y.ways() < MOST / 5 * 4 ? 1 : 0, 1);
+    }
+
+    private void lookAtGreatest(CrossReader x) {
+        due("ways()", x.ways(), MOST);
+        due("without a HOST that has some", x.without(0) < MOST ? 1 : 0, 1);
+        due("steps(0)", x.steps(0) > 0 ? 1 : 0, 1);
+        due("none behind the last", x.steps(MOST), NONE);
+        for (long k : new long[] {0, MOST / 2, MOST - 1}) {
+            due("tellWay(" + k + ")", x.tellWay(k) > 0 ? 1 : 0, 1);
+            due("its test()", Checks.test(x, Checks.told(x)), 1);
+        }
     }
 
     // ---- promises 13 to 15

@@ -41,7 +41,7 @@ public final class FaultsTest {
     private String randomText() {
         StringBuilder text = new StringBuilder(TEXTS[pick(TEXTS.length)]);
         int changes = pick(4);
-        for (int change = 0; change < changes; change++) {
+        for (int change = 0; change < changes && text.length() > 0; change++) {
             int at = pick(text.length());
             char sign = pick(30) == 0 ? (char) pick(256) : SIGNS.charAt(pick(SIGNS.length()));
             switch (pick(5)) {

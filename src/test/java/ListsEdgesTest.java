@@ -76,7 +76,7 @@ public final class ListsEdgesTest {
         lookAtMends(y, 0);
         Checks.say(y, "asq");
         lookAtMends(y, 225);
-        checks.about("30: not to what is not in its Trees, not by what MARKS bar");
+        checks.about("30: not by what MARKS bar");
         y.marks(0, 0, 1);
         lookAtMends(y);
     }

@@ -23,6 +23,7 @@ public final class SpansEdgesTest {
         test.tooGreat();
         test.closeToTooGreat();
         test.justNotTooGreat();
+        test.tooGreatByProducts();
         test.itemsEdges();
         test.spansEdges();
         test.aroundEdges();
@@ -353,6 +354,33 @@ public final class SpansEdgesTest {
         due("its second CHILD", y.over(0, 2, 1, 0, 6, NONE, NONE), MOST / 5);
         y.out(7, 1);
         due("one of its first CHILD's HOSTS less", y.ways() > 0 && y.ways() < MOST / 5 * 4 ? 1 : 0, 1);
+    }
+
+    /** Each SPAN has one place at which it is parted, so that nothing is added to what is multiplied. */
+    private void tooGreatByProducts() {
+        checks.about("TOO_GREAT: a product to which nothing comes");
+        String sixes = "tree(S a(S(S E^ E^)(S(S E^ E^)S^)));tree(S .);" + "tree(E .);".repeat(6);
+        CrossReader x = Checks.reader(sixes, "aaaaa");
+        lookAtNumber(sixes, 4, BigInteger.valueOf(2821109907456L));
+        lookAtNumber(sixes, 5, BigInteger.valueOf(3656158440062976L));
+        due("ways()", x.ways(), -3);
+        due("steps(0)", x.steps(0), -3);
+        due("over(0, 2, 0, 1, 5)", x.over(0, 2, 0, 1, 5, NONE, NONE), -3);
+        due("over(0, 6, 0, 1, 5)", x.over(0, 6, 0, 1, 5, NONE, NONE), 2821109907456L * 36);
+        due("without(7)", x.without(7), 95367431640625L);
+        Checks.say(x, "aaaa");
+        due("ways()", x.ways(), 2821109907456L);
+        due("steps of the last", x.steps(2821109907455L), 21);
+        String guests = "tree(S+ b(X(X E^ E^)(X E^(X E^ E^))));tree(S! a(S(X E^ E^)(X(X E^ E^)S*)));"
+            + "tree(E .);".repeat(6);
+        CrossReader y = Checks.reader(guests, "aaab");
+        due("ways() with a GUEST", y.ways(), 16926659444736L);
+        due("steps of the last", y.steps(16926659444735L), 21);
+        Checks.say(y, "aaaab");
+        due("around(0, 5, 4, 5)", y.around(0, 5, 4, 5), 2);
+        due("over(1, 0, 1, 0, 5, 4, 5)", y.over(1, 0, 1, 0, 5, 4, 5), 2821109907456L);
+        due("over(0, 0, 0, 4, 5)", y.over(0, 0, 0, 4, 5, NONE, NONE), 7776);
+        due("ways() with a GUEST", y.ways(), -3);
     }
 
     private void lookAtGreatest(CrossReader x) {
